@@ -1074,7 +1074,7 @@ public final class NineInMind {
             int before = lostMany;
             hear(t);
             int rhymes = lore.rhymes[t];
-            for (int r = 0; r < lore.things; r++) {
+            for (int r = 0; r < lore.things && rhymes >> r != 0; r++) {
                 if ((rhymes >> r & 1) != 0) {
                     hear(r);
                 }
@@ -1092,6 +1092,13 @@ public final class NineInMind {
                 }
             }
             return lostMany - before;
+        }
+
+        /** A MIND is what was heard latest, so a way does what the latest of its NEWS do alone. */
+        void hearLatestOf(Courier way) {
+            for (int k = way.many - 1; k >= 0; k--) {
+                hear(way.thingAt(k));
+            }
         }
 
         int recite(Lore lore, Row row) {
@@ -1375,6 +1382,7 @@ public final class NineInMind {
         private int many;
         private final Courier man = new Courier();
         private final Courier listener = new Courier();
+        private final Courier way = new Courier();
         private final int[] order = new int[MOST_TOLD];
         private final int[] best = new int[MOST_TOLD];
         private int bestMany;
@@ -1444,7 +1452,7 @@ public final class NineInMind {
             for (int later = i + 1; later < many && Integer.bitCount(left) > 1; later++) {
                 left &= ~(1 << row[later]);
             }
-            return Integer.lowestOneBit(left);
+            return left & -left;
         }
 
         int unlikeSinceLast(int i) {
@@ -1472,12 +1480,14 @@ public final class NineInMind {
             bestSum = NONE;
             bestCourt = 0;
             listener.begin(size);
-            tellOn(lore, set, inn, 0);
+            way.begin(size);
+            way.walk(lore, inn);
+            tellOn(lore, set, 0);
         }
 
-        private void tellOn(Lore lore, int left, int inn, int depth) {
+        private void tellOn(Lore lore, int left, int depth) {
             if (left == 0 || depth >= MOST_TOLD) {
-                weighOrder(lore, inn);
+                weighOrder(lore);
                 return;
             }
             long mind = listener.mind;
@@ -1486,16 +1496,16 @@ public final class NineInMind {
                 if ((left >> t & 1) != 0) {
                     order[depth] = t;
                     listener.hear(t);
-                    tellOn(lore, left & ~(1 << t), inn, depth + 1);
+                    tellOn(lore, left & ~(1 << t), depth + 1);
                     listener.setMind(mind, had);
                 }
             }
         }
 
         /** Orders come by THINGS, so the first of like ones stays. */
-        private void weighOrder(Lore lore, int inn) {
+        private void weighOrder(Lore lore) {
             man.likeMindOf(listener);
-            man.walk(lore, inn);
+            man.hearLatestOf(way);
             int court = man.deliver(lore);
             int sum = lore.worthOf(court);
             if (sum > bestSum) {
@@ -1712,15 +1722,17 @@ public final class NineInMind {
     private static final class Ahead {
         private final Courier speaker = new Courier();
         private final Courier walker = new Courier();
+        private final Courier way = new Courier();
         private final int[] row = new int[MOST_AHEAD];
         private final int[] best = new int[MOST_AHEAD];
         private int bestMany;
         private int bestSum;
         private int most;
-        private int inn;
 
         void chooseSayings(Lore lore, Courier one, int to) {
-            inn = to;
+            way.begin(one.size);
+            way.inn = one.inn;
+            way.walk(lore, to);
             begin(one, MOST_AHEAD);
             sayOn(lore, one.held, 0);
         }
@@ -1740,7 +1752,7 @@ public final class NineInMind {
         /** A row with a THING that he has no more does as one without it, which is shorter: it is left out. */
         private void sayOn(Lore lore, int left, int depth) {
             walker.likeMindOf(speaker);
-            walker.walk(lore, inn);
+            walker.hearLatestOf(way);
             weigh(lore.worthOf(walker.held), depth);
             if (depth >= most || depth >= row.length) {
                 return;

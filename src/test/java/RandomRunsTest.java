@@ -4,15 +4,20 @@ import java.util.Random;
 public final class RandomRunsTest {
     private static final int RUNS = 700;
     private static final int CALLS = 500;
+    private static final int[] FAR = {Integer.MIN_VALUE, Integer.MIN_VALUE + 1, -65536, -64, -3, -2, 31, 32, 33, 63, 64,
+        256, 65535, 65536, 1 << 30, Integer.MAX_VALUE - 10, Integer.MAX_VALUE - 1, Integer.MAX_VALUE};
 
     private final Random random;
     private final NineInMind x = new NineInMind();
     private final Model m = new Model();
     private final int run;
+    /** Now and then a run in which arguments are often far outside. */
+    private final boolean wild;
     private int call;
 
     private RandomRunsTest(int run) {
         this.run = run;
+        wild = run % 5 == 0;
         random = new Random(run);
     }
 
@@ -68,6 +73,9 @@ public final class RandomRunsTest {
         }
         if (which == 2) {
             return random.nextInt(3) == 0 ? random.nextInt() : bound + random.nextInt(3);
+        }
+        if (wild && which < 10) {
+            return FAR[random.nextInt(FAR.length)];
         }
         return random.nextInt(Math.max(bound, 1));
     }
@@ -180,11 +188,11 @@ public final class RandomRunsTest {
                 break;
             case 11:
                 int seed = random.nextInt();
-                int times = 1 + near(40);
+                int times = near(41);
                 same("day", m.day(seed, times), x.day(seed, times), seed, times);
                 break;
             case 12, 13:
-                int size = 1 + near(m.tale.mind);
+                int size = near(m.tale.mind + 1);
                 same("comes", m.comes(size), x.comes(size), size);
                 break;
             case 14:
@@ -269,7 +277,7 @@ public final class RandomRunsTest {
                 same("piece", m.piece(r), x.piece(r), r);
                 break;
             case 13:
-                int j = near(12) - 1;
+                int j = random.nextInt(4) == 0 ? -1 : near(12);
                 same("joined", m.joined(j), x.joined(j), j);
                 break;
             case 14:
@@ -283,7 +291,7 @@ public final class RandomRunsTest {
 
     private void find(int which) {
         int r = anyRow();
-        int size = 1 + near(9);
+        int size = near(10);
         int law = near(3);
         int i = anyInn();
         switch (which) {
@@ -326,7 +334,7 @@ public final class RandomRunsTest {
                 }
                 break;
             default:
-                askMen(1 + near(random.nextBoolean() ? 9 : 3));
+                askMen(near(random.nextBoolean() ? 10 : 4));
                 break;
         }
     }
