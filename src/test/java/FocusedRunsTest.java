@@ -86,7 +86,7 @@ public final class FocusedRunsTest {
 
     private String pairs(String word, int things, int many) {
         StringBuilder s = new StringBuilder();
-        for (int i = 0; i < many; i++) {
+        for (int i = 0; i < many && s.length() < 470; i++) {
             int t = random.nextInt(things);
             int u = random.nextInt(things);
             if (t != u) {
@@ -142,6 +142,12 @@ public final class FocusedRunsTest {
         String told = tell("things" + things + ";" + pairs("secret", things, random.nextInt(48)));
         boolean doubled = random.nextInt(3) == 0;
         int wanted = (1 << (doubled ? Math.min(things, 7) : things)) - 1;
+        if (random.nextBoolean()) {
+            // the same among higher numbers
+            things = 16;
+            wanted <<= 16 - Integer.bitCount(wanted);
+            told = tell("things16;" + pairs("secret", 16, 47));
+        }
         for (int each = 1; each <= 9; each += 1 + random.nextInt(3)) {
             int many = m.men(wanted, each, doubled);
             String call = told + wanted + " " + each + " " + doubled + " ";

@@ -58,6 +58,13 @@ public final class HearingsTest {
         Check.due("less(0) without", -1, x.less(0));
         Check.row(x, 0);
         Check.due("less(0) of nothing", -1, x.less(0));
+        Check.row(x, 0, 6, 1, 10, 11, 10, 12, 11, 2, 3, 8, 6, 3, 10, 12, 0, 6, 2, 12, 5, 4,
+                2, 10, 10, 7, 12, 6, 6, 1, 10, 9, 12, 10, 10, 2, 8, 5, 11, 5, 7, 3);
+        Check.due("less(0) with the greatest size", 8, x.less(0));
+        // with 10 more are new than with 9, but 9 is no size that counts
+        Check.row(x, 0, 4, 4, 12, 10, 5, 3, 1, 8, 7, 9, 0, 5, 7, 9, 2, 7, 1, 0, 12, 0,
+                8, 10, 7, 13, 7, 11, 4, 6, 12, 5, 10, 13, 3, 11, 2, 8, 1, 2, 13, 0);
+        Check.due("less(0) beyond the sizes", -1, x.less(0));
     }
 
     /** Promise 26. */

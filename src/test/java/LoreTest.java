@@ -66,6 +66,12 @@ public final class LoreTest {
         // behind n bytes the tape isn't read
         Check.feed(x, "things 3;#");
         Check.due("lore(9) ahead of a fault", 1, x.lore(9));
+        Check.feed(x, "things 4;innn;");
+        Check.due("lore(12) within a word", -32, x.lore(12));
+        Check.due("its place", 12, x.fault(1));
+        Check.feed(x, "things 4;mind 12;");
+        Check.due("lore(15) within a number", -32, x.lore(15));
+        Check.due("its place", 15, x.fault(1));
     }
 
     private static void readsAll() {
@@ -128,6 +134,10 @@ public final class LoreTest {
         bad("things 4;1234", 1, 9);
         bad("things 4;inn 0 0 0 0 0 0 0 0 0 1234;", 1, 31);
         bad("things 4;mind 3 _", 1, 16);
+        // next to the letters and digits
+        for (char sign : new char[] {'`', '{', '/', ':', '<', 'A', 'Z', 127, 128, 255}) {
+            bad(String.valueOf(sign), 1, 0);
+        }
     }
 
     private static void faultTwo() {
@@ -137,6 +147,10 @@ public final class LoreTest {
         bad(";", 2, 0);
         bad("5", 2, 0);
         bad("thing 4;", 2, 0);
+        bad("a", 2, 0);
+        bad("z", 2, 0);
+        bad("0", 2, 0);
+        bad("9", 2, 0);
         bad("thingss 4;", 2, 0);
         bad("mind 4;things 4;", 2, 0);
         bad("  inn;", 2, 2);
@@ -182,6 +196,7 @@ public final class LoreTest {
 
     private static void faultFour() {
         bad("things 4;things 4;", 4, 9);
+        bad("things 1;things 1;", 4, 9);
         bad("things 4;mind 1;things", 4, 16);
         bad("things 4;inn 0 0 0 0 0 0 0 0 0 0;", 4, 31);
         bad("things 4;inn;inn;inn;inn;inn;inn;inn;inn;inn;inn;inn;", 4, 49);

@@ -85,6 +85,10 @@ public final class MenTest {
         loads(x, 0x3f, 9, false, 0x1f, 0x20);
         loads(x, 0x3f, 3, false, 3, 0x1c, 0x20);
         loads(x, 0x3f, 4, false, 1, 0x1e, 0x20);
+        // 0 to 3 would be less, but are too many for one
+        x = Check.withLore("things 6;secret 4 0;secret 4 1;secret 5 2;secret 5 3;");
+        loads(x, 0x3f, 3, false, 0x1c, 0x23);
+        loads(x, 0x3f, 4, false, 0xf, 0x30);
     }
 
     private static void menDoubled() {
