@@ -16,6 +16,11 @@ final class Check {
         }
     }
 
+    /** The answer that one sentence of a promise asks for. */
+    static void promise(int number, String sentence, long want, long got) {
+        due("promise " + number + ": " + sentence + ":", want, got);
+    }
+
     static void end(String name) {
         System.out.println(name + ": " + asked + " answers, " + wrong + " of them wrong");
         if (wrong != 0 || asked == 0) {

@@ -369,7 +369,7 @@ public final class CouriersTest {
         Check.due("mind", Check.mind(y, 0), Check.mind(x, 0));
         Check.due("inn", y.of(0, 1), x.of(0, 1));
         Check.due("losses", lost, x.of(0, 5));
-        // 16838, 5758, 10113, 17515: modulo 4 that is 2, 2, 1, 3: without inns and with nothing in mind no more draws
+        // 16838, 38526, 10113, 50283: modulo 4 that is 2, 2, 1, 3: without inns and with nothing in mind no more draws
         x = Check.withLore("things 3;");
         x.comes(2);
         Check.due("day(1, 4)", 0, x.day(1, 4));
