@@ -39,18 +39,10 @@ public final class BoundsCouriersTest {
         Check.end("BoundsCouriersTest");
     }
 
-    private static NineInMind with(String lore, int... sizes) {
-        NineInMind x = Check.withLore(lore);
-        for (int size : sizes) {
-            x.comes(size);
-        }
-        return x;
-    }
-
     // ---- promise 7
 
     private static void comesUpToSix() {
-        NineInMind x = with("things 4;");
+        NineInMind x = Check.with("things 4;");
         for (int c = 0; c < 6; c++) {
             Check.promise(7, "his number: as they come", c, x.comes(1));
         }
@@ -63,14 +55,14 @@ public final class BoundsCouriersTest {
 
     private static void comesUpToMind() {
         for (int mind = 1; mind <= 9; mind++) {
-            NineInMind x = with("things 1;mind " + mind + ";");
+            NineInMind x = Check.with("things 1;mind " + mind + ";");
             Check.promise(7, "-3: the SIZE is 0", -3, x.comes(0));
             Check.promise(7, "-3: the SIZE is above mind " + mind, -3, x.comes(mind + 1));
             Check.promise(7, "SIZE 1", 0, x.comes(1));
             Check.promise(7, "a SIZE of mind " + mind, 1, x.comes(mind));
             Check.promise(7, "refused ones don't come", 2, x.count(3));
         }
-        NineInMind x = with("things 16;");
+        NineInMind x = Check.with("things 16;");
         Check.promise(7, "mind is 9 without: SIZE 9", 0, x.comes(9));
         Check.promise(7, "mind is 9 without: SIZE 10", -3, x.comes(10));
         for (int size : new int[] {-1, Integer.MIN_VALUE, Integer.MAX_VALUE}) {
@@ -83,14 +75,14 @@ public final class BoundsCouriersTest {
         Check.promise(7, "-5: no THINGS", -5, x.comes(1));
         Check.promise(7, "-5 ahead of -3: 0", -5, x.comes(0));
         Check.promise(7, "-5 ahead of -3: 10", -5, x.comes(10));
-        x = with("things 1;", 1, 1, 1, 1, 1, 1);
+        x = Check.with("things 1;", 1, 1, 1, 1, 1, 1);
         Check.promise(7, "-4 ahead of -3: 0", -4, x.comes(0));
         Check.promise(7, "-4 ahead of -3: 10", -4, x.comes(10));
         Check.promise(7, "-4 ahead of -3: below 0", -4, x.comes(Integer.MIN_VALUE));
     }
 
     private static void comesEmpty() {
-        NineInMind x = with("things 4;mind 3;inn 1;inn 2;", 2);
+        NineInMind x = Check.with("things 4;mind 3;inn 1;inn 2;", 2);
         Check.hear(x, 0, 1, 2, 3);
         x.walks(0, 1);
         x.comes(3);
@@ -109,7 +101,7 @@ public final class BoundsCouriersTest {
     // ---- promise 8
 
     private static void ofEachWhat() {
-        NineInMind x = with("things 16;worth 15 99;worth 0 0;inn;inn;", 3);
+        NineInMind x = Check.with("things 16;worth 15 99;worth 0 0;inn;inn;", 3);
         x.walks(0, 1);
         Check.hear(x, 0, 4, 15, 0, 15);
         int[] due = {3, 1, 3, 1 << 15 | 1 << 4 | 1, 100, 0};
@@ -122,7 +114,7 @@ public final class BoundsCouriersTest {
     }
 
     private static void ofItsMind() {
-        NineInMind x = with("things 16;", 9, 1);
+        NineInMind x = Check.with("things 16;", 9, 1);
         Check.promise(8, "-7: an empty MIND", -7, x.of(0, 10));
         for (int t = 0; t < 9; t++) {
             Check.promise(8, "-7: not so many", -7, x.of(0, 10 + t));
@@ -140,7 +132,7 @@ public final class BoundsCouriersTest {
     }
 
     private static void ofRefused() {
-        NineInMind x = with("things 4;", 2, 2);
+        NineInMind x = Check.with("things 4;", 2, 2);
         Check.hear(x, 0, 1, 2);
         for (int what : new int[] {6, 7, 8, 9, -1, -2, Integer.MIN_VALUE}) {
             Check.promise(8, "-2: no such what " + what, -2, x.of(0, what));
@@ -154,7 +146,7 @@ public final class BoundsCouriersTest {
     // ---- promise 9
 
     private static void lostNever() {
-        NineInMind x = with("things 4;", 2);
+        NineInMind x = Check.with("things 4;", 2);
         Check.promise(9, "NONE: he never did", -1, x.lost(0, 3));
         Check.hear(x, 0, 3, 2, 3);
         Check.promise(9, "NONE: he has it", -1, x.lost(0, 3));
@@ -164,7 +156,7 @@ public final class BoundsCouriersTest {
     }
 
     private static void lostLast() {
-        NineInMind x = with("things 9;" + FIVE_INNS, 1);
+        NineInMind x = Check.with("things 9;" + FIVE_INNS, 1);
         Check.hear(x, 0, 8, 7);
         Check.promise(9, "the INN in which he was", 0, x.lost(0, 8));
         x.hears(0, 8);
@@ -181,7 +173,7 @@ public final class BoundsCouriersTest {
     }
 
     private static void lostRefused() {
-        NineInMind x = with("things 4;", 1);
+        NineInMind x = Check.with("things 4;", 1);
         for (int far : FAR) {
             Check.promise(9, "-2: no COURIER " + far, -2, x.lost(far, 0));
             Check.promise(9, "-2: no THING " + far, -2, x.lost(0, far));
@@ -194,7 +186,7 @@ public final class BoundsCouriersTest {
 
     private static void hearsUpToHisSize() {
         for (int size = 1; size <= 9; size++) {
-            NineInMind x = with("things 16;", size);
+            NineInMind x = Check.with("things 16;", size);
             for (int t = 0; t < size; t++) {
                 Check.promise(10, "NONE: there is room", -1, x.hears(0, t));
             }
@@ -208,7 +200,7 @@ public final class BoundsCouriersTest {
     }
 
     private static void hearsWhatHeHas() {
-        NineInMind x = with("things 16;", 9);
+        NineInMind x = Check.with("things 16;", 9);
         Check.hear(x, 0, 0, 1, 2, 3, 4, 5, 6, 7, 15);
         Check.promise(10, "NONE: he has it as the last", -1, x.hears(0, 0));
         Check.promise(10, "the others keep their order", 0x10f7654321L, Check.mind(x, 0));
@@ -216,14 +208,14 @@ public final class BoundsCouriersTest {
         Check.promise(10, "nothing moves", 0x10f7654321L, Check.mind(x, 0));
         Check.promise(10, "NONE: he has it in the middle", -1, x.hears(0, 5));
         Check.promise(10, "from where it was", 0x150f764321L, Check.mind(x, 0));
-        x = with("things 16;", 1);
+        x = Check.with("things 16;", 1);
         x.hears(0, 15);
         Check.promise(10, "NONE: a MIND of one has it", -1, x.hears(0, 15));
         Check.promise(10, "nothing LOST", 0, x.of(0, 5));
     }
 
     private static void hearsRefused() {
-        NineInMind x = with("things 4;", 1);
+        NineInMind x = Check.with("things 4;", 1);
         x.hears(0, 2);
         for (int far : FAR) {
             Check.promise(10, "-2: no COURIER " + far, -2, x.hears(far, 0));
@@ -237,7 +229,7 @@ public final class BoundsCouriersTest {
     // ---- promise 11
 
     private static void saysToTheFront() {
-        NineInMind x = with("things 16;", 3);
+        NineInMind x = Check.with("things 16;", 3);
         Check.hear(x, 0, 15, 1, 2);
         Check.promise(11, "without rhymes nothing is LOST", 0, x.says(0, 15));
         Check.promise(11, "it comes to the front", 0x1f21, Check.mind(x, 0));
@@ -247,7 +239,7 @@ public final class BoundsCouriersTest {
 
     private static void saysRhymes() {
         String lore = "things 16;rhyme 5 15;rhyme 5 0;rhyme 5 3;rhyme 3 9;";
-        NineInMind x = with(lore, 9, 1, 2, 4);
+        NineInMind x = Check.with(lore, 9, 1, 2, 4);
         x.hears(0, 5);
         Check.promise(11, "there is room for what rhymes", 0, x.says(0, 5));
         Check.promise(11, "each by numbers, and these bring none of theirs", 0x1f305, Check.mind(x, 0));
@@ -263,7 +255,7 @@ public final class BoundsCouriersTest {
     }
 
     private static void saysRefused() {
-        NineInMind x = with("things 4;rhyme 0 1;", 2);
+        NineInMind x = Check.with("things 4;rhyme 0 1;", 2);
         x.hears(0, 1);
         Check.promise(11, "-5: he has it not", -5, x.says(0, 0));
         Check.promise(11, "-5: his MIND stays", 0x11, Check.mind(x, 0));
@@ -280,7 +272,7 @@ public final class BoundsCouriersTest {
     // ---- promise 12
 
     private static void tellsAnotherOne() {
-        NineInMind x = with("things 8;rhyme 0 1;rhyme 0 2;rhyme 7 0;", 2, 1, 9);
+        NineInMind x = Check.with("things 8;rhyme 0 1;rhyme 0 2;rhyme 7 0;", 2, 1, 9);
         Check.hear(x, 0, 5, 0);
         Check.hear(x, 1, 6);
         Check.promise(12, "LOST by both: 5, 0 and 6", 3, x.tells(0, 1, 0));
@@ -297,7 +289,7 @@ public final class BoundsCouriersTest {
     }
 
     private static void tellsRefused() {
-        NineInMind x = with("things 4;rhyme 0 1;inn;inn;", 2, 2);
+        NineInMind x = Check.with("things 4;rhyme 0 1;inn;inn;", 2, 2);
         x.hears(0, 0);
         x.hears(1, 3);
         for (int far : FAR) {
@@ -322,7 +314,7 @@ public final class BoundsCouriersTest {
     // ---- promise 13
 
     private static void walksThatWay() {
-        NineInMind x = with("things 9;" + FIVE_INNS, 9, 2);
+        NineInMind x = Check.with("things 9;" + FIVE_INNS, 9, 2);
         Check.promise(13, "one INN on", 0, x.walks(0, 1));
         Check.promise(13, "NEWS of its end, not of its beginning", 0x11, Check.mind(x, 0));
         Check.promise(13, "one by one to the last", 0, x.walks(0, 4));
@@ -337,20 +329,20 @@ public final class BoundsCouriersTest {
     }
 
     private static void walksNowhere() {
-        NineInMind x = with("things 2;inn 0;inn 1;", 2);
+        NineInMind x = Check.with("things 2;inn 0;inn 1;", 2);
         Check.promise(13, "to the INN where he is", 0, x.walks(0, 0));
         Check.promise(13, "no NEWS there", 0, x.of(0, 2));
         x.walks(0, 1);
         x.hears(0, 0);
         Check.promise(13, "to the last INN, where he is", 0, x.walks(0, 1));
         Check.promise(13, "no NEWS there", 0x101, Check.mind(x, 0));
-        x = with("things 2;inn;inn;", 1);
+        x = Check.with("things 2;inn;inn;", 1);
         Check.promise(13, "INNS without NEWS", 0, x.walks(0, 1));
         Check.promise(13, "nothing in MIND", 0, x.of(0, 2));
     }
 
     private static void walksRefused() {
-        NineInMind x = with("things 2;inn 0;inn 1;", 2);
+        NineInMind x = Check.with("things 2;inn 0;inn 1;", 2);
         for (int far : FAR) {
             Check.promise(13, "-2: no COURIER " + far, -2, x.walks(far, 0));
             Check.promise(13, "-2: no INN " + far, -2, x.walks(0, far));
@@ -358,8 +350,8 @@ public final class BoundsCouriersTest {
         Check.promise(13, "-2: the COURIER behind the last", -2, x.walks(1, 0));
         Check.promise(13, "-2: the INN behind the last", -2, x.walks(0, 2));
         Check.promise(13, "he stays", 0, x.of(0, 1));
-        Check.promise(13, "-2: without INNS", -2, with("things 2;", 2).walks(0, 0));
-        x = with("things 2;inn;inn;inn;inn;inn;inn;inn;inn;inn;inn 1;", 2);
+        Check.promise(13, "-2: without INNS", -2, Check.with("things 2;", 2).walks(0, 0));
+        x = Check.with("things 2;inn;inn;inn;inn;inn;inn;inn;inn;inn;inn 1;", 2);
         Check.promise(13, "the 10th INN", 0, x.walks(0, 9));
         Check.promise(13, "its NEWS", 0x11, Check.mind(x, 0));
         Check.promise(13, "-2: an 11th", -2, x.walks(0, 10));
@@ -368,7 +360,7 @@ public final class BoundsCouriersTest {
     // ---- promise 14
 
     private static void recites() {
-        NineInMind x = with("things 16;rhyme 0 3;rhyme 3 9;", 2);
+        NineInMind x = Check.with("things 16;rhyme 0 3;rhyme 3 9;", 2);
         x.numbers(0, 0, 0);
         Check.promise(14, "a ROW of none", 0, x.recites(0, 0));
         Check.row(x, 0, 1, 0, 3);
@@ -388,7 +380,7 @@ public final class BoundsCouriersTest {
     }
 
     private static void recitesRefused() {
-        NineInMind x = with("things 4;", 2);
+        NineInMind x = Check.with("things 4;", 2);
         x.numbers(0, 0, 1);
         for (int far : FAR) {
             Check.promise(14, "-2: no COURIER " + far, -2, x.recites(far, 0));
@@ -403,7 +395,7 @@ public final class BoundsCouriersTest {
     // ---- promise 15
 
     private static void delivers() {
-        NineInMind x = with("things 16;rhyme 0 15;rhyme 0 9;rhyme 3 4;", 3, 1, 9);
+        NineInMind x = Check.with("things 16;rhyme 0 15;rhyme 0 9;rhyme 3 4;", 3, 1, 9);
         Check.promise(15, "with nothing in MIND", 0, x.delivers(0));
         Check.hear(x, 0, 0, 1, 2);
         // 0 is last: 0 2 1, then 9, 15: 15 9 0. 1 and 2: gone
@@ -416,14 +408,19 @@ public final class BoundsCouriersTest {
         // 1, then 3 and 4 with it: 4 came after he began
         Check.promise(15, "THINGS he has now, as he begins", 1 << 1 | 1 << 3 | 1 << 4, x.delivers(2));
         Check.promise(15, "his MIND", 0x1431, Check.mind(x, 2));
-        x = with("things 16;", 9);
+        x = Check.with("things 16;rhyme 0 15;", 2);
+        Check.hear(x, 0, 1, 0);
+        // 1: 1 0. 0: 0 1, then 15: 15 0
+        Check.promise(15, "the first of his MIND is SAID last", 3 | 1 << 15, x.delivers(0));
+        Check.promise(15, "the first of his MIND is SAID last", 0x1f0, Check.mind(x, 0));
+        x = Check.with("things 16;", 9);
         Check.hear(x, 0, 0, 1, 2, 3, 4, 5, 6, 7, 15);
         Check.promise(15, "a full MIND without rhymes", 0x80ff, x.delivers(0));
         Check.promise(15, "it is in order again", 0x1f76543210L, Check.mind(x, 0));
     }
 
     private static void deliversRefused() {
-        NineInMind x = with("things 4;", 2);
+        NineInMind x = Check.with("things 4;", 2);
         for (int far : FAR) {
             Check.promise(15, "-2: no COURIER " + far, -2, x.delivers(far));
         }
@@ -433,7 +430,7 @@ public final class BoundsCouriersTest {
     // ---- promise 16
 
     private static void breach() {
-        NineInMind x = with("things 16;secret 14 15;secret 3 1;secret 1 2;secret 0 4;", 4, 4, 4, 4, 4, 4);
+        NineInMind x = Check.with("things 16;secret 14 15;secret 3 1;secret 1 2;secret 0 4;", 4, 4, 4, 4, 4, 4);
         Check.promise(16, "NONE: none holds anything", -1, x.breach());
         x.hears(0, 14);
         x.hears(1, 15);
@@ -446,13 +443,13 @@ public final class BoundsCouriersTest {
         Check.promise(16, "the least such", 4000 + 22, x.breach());
         Check.hear(x, 0, 4, 0);
         Check.promise(16, "COURIER 0, THING 0", 4, x.breach());
-        Check.promise(16, "NONE: without COURIERS", -1, with("things 2;secret 0 1;").breach());
+        Check.promise(16, "NONE: without COURIERS", -1, Check.with("things 2;secret 0 1;").breach());
     }
 
     // ---- promise 17
 
     private static void risk() {
-        NineInMind x = with("things 5;secret 0 1;secret 2 3;", 2, 1);
+        NineInMind x = Check.with("things 5;secret 0 1;secret 2 3;", 2, 1);
         Check.promise(17, "0: an empty MIND", 0, x.risk(0, 0));
         x.hears(0, 0);
         Check.promise(17, "1: there is room for both", 1, x.risk(0, 1));
@@ -468,13 +465,13 @@ public final class BoundsCouriersTest {
         Check.promise(17, "0: SIZE 1 never holds both", 0, x.risk(1, 3));
         Check.promise(17, "his MIND stays", 0x110, Check.mind(x, 0));
         Check.promise(17, "nothing is LOST", 1, x.of(0, 5));
-        x = with("things 5;secret 0 1;", 3);
+        x = Check.with("things 5;secret 0 1;", 3);
         Check.hear(x, 0, 0, 1);
         Check.promise(17, "1: he holds both, and hears another one", 1, x.risk(0, 4));
     }
 
     private static void riskRefused() {
-        NineInMind x = with("things 4;", 2);
+        NineInMind x = Check.with("things 4;", 2);
         for (int far : FAR) {
             Check.promise(17, "-2: no COURIER " + far, -2, x.risk(far, 0));
             Check.promise(17, "-2: no THING " + far, -2, x.risk(0, far));
@@ -486,32 +483,32 @@ public final class BoundsCouriersTest {
     // ---- promise 18
 
     private static void loud() {
-        NineInMind x = with("things 16;inn 0 15;inn;inn 1 1 2;inn 2 15;");
+        NineInMind x = Check.with("things 16;inn 0 15;inn;inn 1 1 2;inn 2 15;");
         Check.promise(18, "from an INN to itself: none", 0, x.loud(0, 0));
         Check.promise(18, "that at its end, which has none", 0, x.loud(0, 1));
         Check.promise(18, "unlike ones", 2, x.loud(1, 2));
         Check.promise(18, "from the first to the last", 3, x.loud(0, 3));
         Check.promise(18, "from the last to the first", 4, x.loud(3, 0));
         Check.promise(18, "not that at its beginning", 2, x.loud(2, 0));
-        x = with("things 16;inn;inn 0 1 2 3 4 5 6 7 8;inn 9 10 11 12 13 14 15;");
+        x = Check.with("things 16;inn;inn 0 1 2 3 4 5 6 7 8;inn 9 10 11 12 13 14 15;");
         Check.promise(18, "all THINGS", 16, x.loud(0, 2));
     }
 
     private static void loudRefused() {
-        NineInMind x = with("things 4;inn;inn;");
+        NineInMind x = Check.with("things 4;inn;inn;");
         for (int far : FAR) {
             Check.promise(18, "-2: no INN " + far, -2, x.loud(far, 0));
             Check.promise(18, "-2: no other INN " + far, -2, x.loud(0, far));
         }
         Check.promise(18, "-2: the INN behind the last", -2, x.loud(2, 0));
         Check.promise(18, "-2: the other INN behind the last", -2, x.loud(0, 2));
-        Check.promise(18, "-2: without INNS", -2, with("things 4;").loud(0, 0));
+        Check.promise(18, "-2: without INNS", -2, Check.with("things 4;").loud(0, 0));
     }
 
     // ---- promise 19
 
     private static void turned() {
-        NineInMind x = with("things 16;", 9, 9, 9);
+        NineInMind x = Check.with("things 16;", 9, 9, 9);
         Check.promise(19, "empty MINDS", 0, x.turned(0, 1));
         Check.hear(x, 0, 0, 1, 2, 3, 4, 5, 6, 7, 15);
         Check.promise(19, "one MIND is empty", 0, x.turned(0, 1));
@@ -528,7 +525,7 @@ public final class BoundsCouriersTest {
     }
 
     private static void turnedRefused() {
-        NineInMind x = with("things 4;", 2, 2);
+        NineInMind x = Check.with("things 4;", 2, 2);
         for (int far : FAR) {
             Check.promise(19, "-2: no COURIER " + far, -2, x.turned(far, 0));
             Check.promise(19, "-2: no other one " + far, -2, x.turned(0, far));

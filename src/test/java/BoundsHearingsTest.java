@@ -124,6 +124,10 @@ public final class BoundsHearingsTest {
     private static void newOnesByForesight() {
         NineInMind x = with("things 16;", 0, 1, 2, 0, 1);
         Check.promise(23, "by FORESIGHT: the least that can be", 4, x.fresh(0, 2, 2));
+        Check.row(x, 0, 7, 0, 1, 2, 0, 3, 0, 4, 2, 3, 0, 3, 2, 1, 2, 0, 1, 7, 0, 1);
+        Check.promise(23, "a long row by SAYING", 12, x.fresh(0, 3, 0));
+        Check.promise(23, "a long row by COMING", 15, x.fresh(0, 3, 1));
+        Check.promise(23, "a long row by FORESIGHT", 9, x.fresh(0, 3, 2));
         Check.row(x, 0, 0, 1, 0);
         Check.promise(23, "by FORESIGHT with size 1: what is heard comes in", 3, x.fresh(0, 1, 2));
         Check.row(x, 0, 0, 1, 2, 3, 0, 1, 4, 0, 1, 2, 3, 4);

@@ -168,6 +168,7 @@ public final class BoundsLoreTest {
 
     private static void thingsOnce() {
         bad("things once", "things 4;things 4;", 4, 9);
+        bad("things once, though there is one alone", "things 1;things 1;", 4, 9);
         bad("things once, whatever follows", "things 4;things 0;", 4, 9);
         bad("things once, behind other LINES", "things 4;inn 1;\nthings 5;", 4, 16);
     }
@@ -217,6 +218,11 @@ public final class BoundsLoreTest {
         Check.promise(5, "those that rhyme with it, told twice or not", 1 << 3 | 1 << 1, x.thing(0, 1));
         Check.promise(5, "a rhyme goes one way", 0, x.thing(3, 1));
         Check.promise(5, "a rhyme is no secret", 0, x.thing(0, 2));
+        Check.tell(x, "things 4;");
+        Check.promise(5, "a rhyme doesn't outlast its LORE", 0, x.thing(0, 1));
+        Check.tell(x, "things 4;rhyme 1 2;#");
+        Check.tell(x, "things 4;");
+        Check.promise(5, "a rhyme of a text with a FAULT never was", 0, x.thing(1, 1));
     }
 
     private static void secretOfUnlikeOnes() {
@@ -227,6 +233,11 @@ public final class BoundsLoreTest {
         Check.promise(5, "those it is a secret with, the second", 1 << 3 | 1 << 1, x.thing(0, 2));
         Check.promise(5, "those it is a secret with, the first", 1, x.thing(3, 2));
         Check.promise(5, "a secret is no rhyme", 0, x.thing(3, 1));
+        Check.tell(x, "things 4;");
+        Check.promise(5, "a secret doesn't outlast its LORE", 0, x.thing(0, 2));
+        Check.tell(x, "things 4;secret 1 2;#");
+        Check.tell(x, "things 4;");
+        Check.promise(5, "a secret of a text with a FAULT never was", 0, x.thing(2, 2));
     }
 
     private static void worthUpToNinetyNine() {
@@ -293,11 +304,11 @@ public final class BoundsLoreTest {
         for (String word : new String[] {"Things", "`", "{", "A", "Z", "_", "" + (char) 225, "" + (char) 250}) {
             bad("words are of small letters", word + " 4;", 1, 0);
         }
-        for (String word : new String[] {"a", "z", "thing", "thingsa", "hings", "xthings", "minds"}) {
+        for (String word : new String[] {"a", "z", "thing", "thingsa", "hings", "xthings", "xhings", "thingz", "minds"}) {
             bad("a word that isn't there", word + " 4;", 2, 0);
         }
         for (String word : new String[] {"min", "mindx", "rhym", "rhymes", "secre", "secrets", "wort", "worths", "in",
-            "inns", "a", "z"}) {
+            "inns", "xind", "xhyme", "xecret", "xorth", "xnn", "rhxme", "innx"}) {
             bad("a word that isn't there", "things 4;" + word + " 0 1;", 2, 9);
         }
     }
@@ -407,6 +418,12 @@ public final class BoundsLoreTest {
         Check.promise(4, "the text's length", 8, x.fault(1));
         Check.feed(x, "things 12;");
         Check.promise(3, "n is one sign short", -32, x.lore(9));
+        Check.feed(x, "things 2;innnnnnnnn;");
+        Check.promise(3, "a word that is cut", -32, x.lore(12));
+        Check.promise(4, "the text's length", 12, x.fault(1));
+        Check.feed(x, "things 2;mind 33333;");
+        Check.promise(3, "a number that is cut, of more than 3 digits", -32, x.lore(15));
+        Check.promise(4, "the text's length", 15, x.fault(1));
         Check.feed(x, "things 12;");
         Check.promise(3, "n is the whole", 1, x.lore(10));
     }

@@ -28,15 +28,6 @@ public final class BoundsRowsTest {
         Check.end("BoundsRowsTest");
     }
 
-    private static NineInMind withPieces(String lore, long[]... pieces) {
-        NineInMind x = Check.withLore(lore);
-        for (long[] piece : pieces) {
-            Check.row(x, 0, piece);
-            x.piece(0);
-        }
-        return x;
-    }
-
     private static long[] row(long... things) {
         return things;
     }
@@ -125,7 +116,7 @@ public final class BoundsRowsTest {
                 six[i][k] = 15 - i;
             }
         }
-        NineInMind x = withPieces("things 16;", six);
+        NineInMind x = Check.withPieces("things 16;", six);
         int[] due = new int[48];
         for (int k = 0; k < 48; k++) {
             due[k] = 10 + k / 8;
@@ -136,50 +127,55 @@ public final class BoundsRowsTest {
     }
 
     private static void joinedOverlaps() {
-        joined("one PIECE", withPieces("things 6;", row(5, 0, 5)), 5, 0, 5);
-        joined("one twice", withPieces("things 6;", row(1, 2), row(1, 2)), 1, 2);
-        joined("one within another one", withPieces("things 6;", row(1), row(0, 1, 2), row(1, 2)), 0, 1, 2);
-        joined("end and beginning", withPieces("things 6;", row(2, 3, 4), row(0, 1, 2)), 0, 1, 2, 3, 4);
-        joined("as much of it as can be", withPieces("things 6;", row(1, 1, 1, 0), row(2, 1, 1, 1)), 2, 1, 1, 1, 0);
-        joined("one behind the other, not apart", withPieces("things 6;", row(0, 2), row(0, 1, 2)), 0, 1, 2, 0, 2);
-        joined("a ring", withPieces("things 6;", row(0, 1), row(1, 2), row(2, 0)), 0, 1, 2, 0);
-        joined("not the longest overlap first", withPieces("things 6;", row(0, 1, 0, 2), row(1, 0, 2, 3), row(2, 3, 0, 1)),
+        joined("one PIECE", Check.withPieces("things 6;", row(5, 0, 5)), 5, 0, 5);
+        joined("one twice", Check.withPieces("things 6;", row(1, 2), row(1, 2)), 1, 2);
+        joined("one within another one", Check.withPieces("things 6;", row(1), row(0, 1, 2), row(1, 2)), 0, 1, 2);
+        joined("within the first one", Check.withPieces("things 6;", row(0, 1, 2), row(1)), 0, 1, 2);
+        joined("within at the end", Check.withPieces("things 6;", row(0, 1, 2, 3), row(3), row(2, 3, 4)), 0, 1, 2, 3, 4);
+        joined("within at the beginning", Check.withPieces("things 6;", row(0, 1, 2), row(0), row(5, 0, 1)), 5, 0, 1, 2);
+        joined("end and beginning", Check.withPieces("things 6;", row(2, 3, 4), row(0, 1, 2)), 0, 1, 2, 3, 4);
+        joined("as much of it as can be", Check.withPieces("things 6;", row(1, 1, 1, 0), row(2, 1, 1, 1)), 2, 1, 1, 1, 0);
+        joined("one behind the other, not apart", Check.withPieces("things 6;", row(0, 2), row(0, 1, 2)), 0, 1, 2, 0, 2);
+        joined("a ring", Check.withPieces("things 6;", row(0, 1), row(1, 2), row(2, 0)), 0, 1, 2, 0);
+        joined("not the longest overlap first", Check.withPieces("things 6;", row(0, 1, 0, 2), row(1, 0, 2, 3), row(2, 3, 0, 1)),
                 0, 1, 0, 2, 3, 0, 1);
     }
 
     private static void joinedOfLikeOnes() {
-        joined("of like ones the first by THINGS", withPieces("things 6;", row(5), row(0), row(3)), 0, 3, 5);
-        joined("of like ones the first by THINGS", withPieces("things 6;", row(1, 0), row(0, 1)), 0, 1, 0);
-        joined("the shortest ahead of the first", withPieces("things 6;", row(0, 3), row(5, 0)), 5, 0, 3);
+        joined("of like ones the first by THINGS", Check.withPieces("things 6;", row(5), row(0), row(3)), 0, 3, 5);
+        joined("of like ones the first by THINGS", Check.withPieces("things 6;", row(1, 0), row(0, 1)), 0, 1, 0);
+        joined("the shortest ahead of the first", Check.withPieces("things 6;", row(0, 3), row(5, 0)), 5, 0, 3);
     }
 
     // ---- promises 41 and 42
 
     private static void unfit() {
-        Check.promise(41, "NONE: without PIECES", -1, withPieces("things 9;").unfit());
-        Check.promise(41, "NONE: one PIECE", -1, withPieces("things 9;", row(0, 1, 0)).unfit());
-        Check.promise(41, "NONE: nothing that both have", -1, withPieces("things 9;", row(0, 1), row(2, 3)).unfit());
-        Check.promise(41, "NONE: one that both have", -1, withPieces("things 9;", row(0, 1), row(2, 0)).unfit());
-        Check.promise(41, "NONE: two in like order", -1, withPieces("things 9;", row(0, 1), row(0, 2, 1)).unfit());
-        Check.promise(41, "two in unlike order", 1, withPieces("things 9;", row(0, 1), row(1, 2, 0)).unfit());
-        Check.promise(41, "NONE: by where each stands first", -1, withPieces("things 9;", row(0, 1, 0), row(0, 1)).unfit());
-        Check.promise(41, "by where each stands first", 1, withPieces("things 9;", row(0, 1, 0), row(1, 0, 1)).unfit());
-        Check.promise(41, "NONE: the same twice", -1, withPieces("things 9;", row(3, 1, 2), row(3, 1, 2)).unfit());
+        Check.promise(41, "NONE: without PIECES", -1, Check.withPieces("things 9;").unfit());
+        Check.promise(41, "NONE: one PIECE", -1, Check.withPieces("things 9;", row(0, 1, 0)).unfit());
+        Check.promise(41, "NONE: nothing that both have", -1, Check.withPieces("things 9;", row(0, 1), row(2, 3)).unfit());
+        Check.promise(41, "NONE: one that both have", -1, Check.withPieces("things 9;", row(0, 1), row(2, 0)).unfit());
+        Check.promise(41, "NONE: two in like order", -1, Check.withPieces("things 9;", row(0, 1), row(0, 2, 1)).unfit());
+        Check.promise(41, "NONE: one of them hasn't THING 0", -1, Check.withPieces("things 9;", row(1), row(0, 1)).unfit());
+        Check.promise(41, "two in unlike order", 1, Check.withPieces("things 9;", row(0, 1), row(1, 2, 0)).unfit());
+        Check.promise(41, "NONE: by where each stands first", -1, Check.withPieces("things 9;", row(0, 1, 0), row(0, 1)).unfit());
+        Check.promise(41, "by where each stands first", 1, Check.withPieces("things 9;", row(0, 1, 0), row(1, 0, 1)).unfit());
+        Check.promise(41, "NONE: the same twice", -1, Check.withPieces("things 9;", row(3, 1, 2), row(3, 1, 2)).unfit());
         Check.promise(41, "the last two", 45,
-                withPieces("things 9;", row(0), row(0), row(0), row(0), row(1, 0), row(0, 1)).unfit());
+                Check.withPieces("things 9;", row(0), row(0), row(0), row(0), row(1, 0), row(0, 1)).unfit());
         Check.promise(41, "the first and the last", 5,
-                withPieces("things 9;", row(7, 8), row(0), row(0), row(0), row(0), row(8, 7)).unfit());
+                Check.withPieces("things 9;", row(7, 8), row(0), row(0), row(0), row(0), row(8, 7)).unfit());
         Check.promise(41, "the first two: by the one, then the other one", 3,
-                withPieces("things 9;", row(7, 8), row(0, 1), row(1, 0), row(8, 7), row(8, 7)).unfit());
-        Check.promise(41, "eight each, the last two turned", 1, withPieces("things 16;", row(0, 1, 2, 3, 4, 5, 14, 15),
+                Check.withPieces("things 9;", row(7, 8), row(0, 1), row(1, 0), row(8, 7), row(8, 7)).unfit());
+        Check.promise(41, "eight each, the last two turned", 1, Check.withPieces("things 16;", row(0, 1, 2, 3, 4, 5, 14, 15),
                 row(0, 1, 2, 3, 4, 5, 15, 14)).unfit());
     }
 
     private static void gaps() {
         Check.promise(42, "without LORE there are no THINGS", 0, new NineInMind().gaps());
-        Check.promise(42, "without PIECES all THINGS", 0xffff, withPieces("things 16;").gaps());
-        Check.promise(42, "the first and the last are had", 0x7ffe, withPieces("things 16;", row(15, 0)).gaps());
-        Check.promise(42, "none", 0, withPieces("things 3;", row(0, 2), row(1, 1)).gaps());
+        Check.promise(42, "without PIECES all THINGS", 0xffff, Check.withPieces("things 16;").gaps());
+        Check.promise(42, "the first and the last are had", 0x7ffe, Check.withPieces("things 16;", row(15, 0)).gaps());
+        Check.promise(42, "the first isn't had", 5, Check.withPieces("things 3;", row(1)).gaps());
+        Check.promise(42, "none", 0, Check.withPieces("things 3;", row(0, 2), row(1, 1)).gaps());
     }
 
     // ---- promise 43
@@ -409,6 +405,14 @@ public final class BoundsRowsTest {
         Check.promise(47, "as it was: PIECES", 7, x.joined(-1));
         Check.promise(47, "-4: there are 6", -4, x.comes(1));
         Check.promise(47, "-4: there are 6", -4, x.piece(0));
+        joined("PIECES as they were", x, 0, 1, 2, 3, 4, 5, 6);
+        Check.tell(x, "things 16;");
+        Check.row(x, 0, 9, 9, 8, 8);
+        for (int i = 0; i < 6; i++) {
+            x.piece(0);
+        }
+        x.restore(1);
+        joined("PIECES as they were, in place of longer ones", x, 0, 1, 2, 3, 4, 5, 6);
         Check.feed(x, "things 3;           ");
         x.restore(1);
         Check.promise(47, "THE TAPE is in no IMAGE", 20, x.count(6));

@@ -37,6 +37,24 @@ final class Check {
         return x;
     }
 
+    static NineInMind with(String text, int... sizes) {
+        NineInMind x = withLore(text);
+        for (int size : sizes) {
+            x.comes(size);
+        }
+        return x;
+    }
+
+    /** Each of these rows is put as a PIECE, by way of ROW 0. */
+    static NineInMind withPieces(String text, long[]... pieces) {
+        NineInMind x = withLore(text);
+        for (long[] piece : pieces) {
+            row(x, 0, piece);
+            x.piece(0);
+        }
+        return x;
+    }
+
     /** Puts a text on an empty tape and reads it. */
     static int tell(NineInMind x, String text) {
         feed(x, text);

@@ -25,11 +25,7 @@ public final class CouriersTest {
     }
 
     private static NineInMind withCouriers(int... sizes) {
-        NineInMind x = Check.withLore(LORE);
-        for (int size : sizes) {
-            x.comes(size);
-        }
-        return x;
+        return Check.with(LORE, sizes);
     }
 
     /** Promise 7. */

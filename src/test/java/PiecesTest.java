@@ -9,12 +9,7 @@ public final class PiecesTest {
     }
 
     private static NineInMind withPieces(long[]... pieces) {
-        NineInMind x = Check.withLore("things 10;");
-        for (long[] piece : pieces) {
-            Check.row(x, 0, piece);
-            x.piece(0);
-        }
-        return x;
+        return Check.withPieces("things 10;", pieces);
     }
 
     private static long[] row(long... things) {
