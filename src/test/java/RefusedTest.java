@@ -263,6 +263,11 @@ public final class RefusedTest {
         refused(34, "load(64, 1, false, 0)", -3, x -> x.load(64, 1, false, 0));
         refused(34, "load(1, 0, true, 0)", -3, x -> x.load(1, 0, true, 0));
         refused(34, "load(1, 1, false, 1)", -1, x -> x.load(1, 1, false, 1));
+        String nine = whole(Check.withLore("things 9;"));
+        on(Check.withLore("things 9;"), nine, 33, "men(511, 9, true): nine doubled", -4, x -> x.men(511, 9, true));
+        on(Check.withLore("things 9;"), nine, 33, "men(511, 0, true): -3 ahead of -4", -3, x -> x.men(511, 0, true));
+        on(Check.withLore("things 9;"), nine, 34, "load(511, 9, true, 0): nine doubled", -4, x -> x.load(511, 9, true, 0));
+        on(Check.withLore("things 9;"), nine, 34, "load(511, 10, true, 0): -3 ahead of -4", -3, x -> x.load(511, 10, true, 0));
         refused(37, "asked(64)", -3, x -> x.asked(64));
         refused(38, "broken(3, 0)", -2, x -> x.broken(3, 0));
         refused(38, "broken(0, 64)", -3, x -> x.broken(0, 64));
