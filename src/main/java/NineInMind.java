@@ -857,11 +857,11 @@ public final class NineInMind {
         }
 
         private boolean readPair(boolean secret) {
-            if (!readThing(NONE)) {
+            if (!readNumber(0, lore.things - 1, NONE)) {
                 return false;
             }
             int one = number;
-            if (!readThing(one)) {
+            if (!readNumber(0, lore.things - 1, one)) {
                 return false;
             }
             if (secret) {
@@ -874,7 +874,7 @@ public final class NineInMind {
         }
 
         private boolean readWorth() {
-            if (!readThing(NONE)) {
+            if (!readNumber(0, lore.things - 1, NONE)) {
                 return false;
             }
             int t = number;
@@ -904,10 +904,6 @@ public final class NineInMind {
                 }
             }
             return false;
-        }
-
-        private boolean readThing(int unlike) {
-            return readNumber(0, lore.things - 1, unlike);
         }
 
         private boolean readNumber(int least, int most, int unlike) {
@@ -1054,7 +1050,10 @@ public final class NineInMind {
         }
 
         private void bringForward(int t) {
-            int bits = 4 * Math.max(placeOf(t), 0);
+            int bits = 0;
+            while (bits < 4 * many && (mind >>> bits & 15) != t) {
+                bits += 4;
+            }
             long ahead = mind & (1L << bits) - 1;
             long behind = mind >>> bits + 4 << bits + 4;
             mind = behind | ahead << 4 | t;
@@ -1062,7 +1061,7 @@ public final class NineInMind {
 
         private int loseLast() {
             many--;
-            int t = thingAt(many);
+            int t = (int) (mind >>> 4 * many) & 15;
             mind &= (1L << 4 * many) - 1;
             held &= ~(1 << t);
             lostMany++;
