@@ -104,6 +104,20 @@ public final class MenTest {
                 4096, 4096, 8192, 8192, 16384, 16384, 32768, 32768);
         Check.due("nine doubled", -4, x.men(0x1ff, 3, true));
         Check.due("nine doubled", -4, x.load(0x1ff, 3, true, 0));
+        doubledAmongSecrets();
+    }
+
+    /** With the last THING that is due twice, a man more is needed than its secrets alone would tell. */
+    private static void doubledAmongSecrets() {
+        // 0, 2, 3 are secret with each other: two men for each are six
+        NineInMind x = Check.withLore("things 8;secret 0 2;secret 0 3;secret 0 4;secret 1 4;secret 2 3;secret 3 5;"
+                + "secret 4 6;secret 4 7;secret 5 6;");
+        loads(x, 0xff, 3, true, 1, 0x34, 0x34, 0x43, 0x8a, 0xc8);
+        loads(x, 0xff, 4, true, 1, 1, 0x34, 0x34, 0xca, 0xca);
+        x = Check.withLore("things 8;secret 0 2;secret 0 4;secret 0 7;secret 1 6;secret 1 7;secret 2 6;secret 2 7;"
+                + "secret 3 4;secret 3 5;secret 3 6;secret 4 5;secret 5 6;secret 6 7;");
+        loads(x, 0xff, 3, true, 9, 0xe, 0x16, 0x41, 0x50, 0xa0, 0xa0);
+        loads(x, 0xff, 9, true, 9, 0xe, 0x16, 0x41, 0x50, 0xa0, 0xa0);
     }
 
     private static void refused() {
